@@ -39,8 +39,8 @@ public final class WellField {
     private static final int LAST_YEAR = 9999;
     private static final int SHEETS = 4;
     private static final int SHEET_ROOM = 24;
+    /** The kinds of sheets: 1, between these, is of whole numbers. */
     private static final int NO_SHEET = 0;
-    private static final int WHOLES = 1;
     private static final int FLOATS = 2;
     private static final int UNSERVED = -1;
     private static final int LEAST_FACTOR = 50;

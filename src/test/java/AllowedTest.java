@@ -13,6 +13,7 @@ final class AllowedTest {
         hold();
         holdFindings();
         move();
+        moveByAges();
         moveOfPaired();
         moveFindings();
         Check.finish();
@@ -47,6 +48,12 @@ final class AllowedTest {
         Check.due("free: month 24", x.free(0, 24), Check.BEYOND);
         Check.due("free: month -1", x.free(1, -1), Check.BEYOND);
         Check.due("free: draws stay", x.of(0, 5), 0);
+        WellField old = new WellField();
+        old.well(0, 0, 0, 1200);
+        old.limit(0, 0);
+        old.table(0, 0, 11, 1);
+        Check.due("free: age 11 adds 1", old.free(0, 12), 1200 / 101);
+        Check.due("free: age 11 is behind month 23", old.free(0, 13), 12);
     }
 
     private static void freeOfLow() {
@@ -259,6 +266,9 @@ final class AllowedTest {
         }
         x.draw(4, 0, 7);
         Check.due("hold: no draw helps", x.hold(4, 0, 1), Check.NONE);
+        x.table(0, 0, 0, 1);
+        Check.due("hold: a table's number of 1", x.hold(4, 0, 7), 7);
+        x.table(0, 0, 0, 0);
         Check.due("hold: nothing changed", x.of(4, 5), 7);
         Check.due("hold: none is needed", x.hold(4, 0, 0), 0);
         Check.due("hold: it became 0", x.of(4, 5), 0);
@@ -282,14 +292,33 @@ final class AllowedTest {
         x.table(0, 0, 5, 10);
         Check.due("move: an older age is the tightest", x.move(1, 3, 0), 7);
         x.dry();
-        x.draw(0, 20, 10);
-        Check.due("move: behind month 23 nothing is asked", x.move(1, 20, 0), 3);
+        x.draw(0, 18, 10);
+        Check.due("move: month 23 is asked", x.move(1, 18, 0), 0);
+        x.draw(0, 19, 10);
+        Check.due("move: behind month 23 nothing is asked", x.move(1, 19, 0), 3);
         x.dry();
         x.draw(0, 0, 1000);
         x.draw(1, 0, 1000);
         Check.due("move: not above 1000", x.move(1, 0, 0), 1000);
         Check.due("move: of nothing", x.move(1, 0, 0), 1000);
         Check.due("move: nothing to nothing", x.move(1, 1, 0), 0);
+    }
+
+    private static void moveByAges() {
+        WellField x = new WellField();
+        x.well(0, 0, 0, 0);
+        x.well(0, 1, 0, 0);
+        x.table(0, 0, 2, 80);
+        x.table(0, 1, 2, 40);
+        x.draw(0, 5, 10);
+        Check.due("move: half as much two months on", x.move(1, 5, 0), 5);
+        WellField one = new WellField();
+        one.well(0, 0, 0, 0);
+        one.well(0, 1, 0, 0);
+        one.table(0, 0, 1, 1);
+        one.draw(0, 5, 10);
+        one.draw(1, 5, 3);
+        Check.due("move: a table's number of 1 holds, too", one.move(1, 5, 0), 3);
     }
 
     private static void moveOfPaired() {

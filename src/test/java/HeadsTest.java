@@ -98,6 +98,8 @@ final class HeadsTest {
         Check.due("by(1, 7, 1)", x.by(1, 7, 1), 2100 + 77);
         Check.due("by(1, 7, 0)", x.by(1, 7, 0), 1000 + 50);
         Check.due("by: of none drawn", x.by(0, 3, 0), 0);
+        x.draw(0, 0, 9);
+        Check.due("by: of month 0", x.by(0, 0, 0), 900);
     }
 
     private static void rained() {
@@ -130,6 +132,10 @@ final class HeadsTest {
         x.draw(0, 0, 6);
         Check.due("most: itself", x.most(0, 0), 0);
         Check.due("most: another month", x.most(0, 1), Check.NONE);
+        x.dry();
+        x.table(0, 0, 1, 1);
+        x.draw(2, 2, 1);
+        Check.due("most: a lowering of 1", x.most(0, 3), 2);
     }
 
     private static void whenAndNear() {
@@ -140,6 +146,7 @@ final class HeadsTest {
         Check.due("when: as the limit is not LOW", x.when(0, 0), Check.NONE);
         Check.due("near: 0", x.near(0, 0), 0);
         Check.due("near: behind it", x.near(0, 5), 500);
+        Check.due("near: from the month ahead of it", x.near(0, 3), 0);
         x.draw(0, 10, 6);
         x.draw(0, 23, 8);
         Check.due("when: first", x.when(0, 0), 10);

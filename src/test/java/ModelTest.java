@@ -36,6 +36,12 @@ final class ModelTest {
         for (int i = 0; i < wells; i++) {
             call("well", kind(), random.nextInt(12), random.nextInt(12), rest());
         }
+        if (run % 2 == 0) {
+            fillTables(run % 4 == 0 ? 4 : 40);
+        }
+        if (run % 8 == 1) {
+            fillReadings();
+        }
         for (int i = 0; i < 160 && !wrong; i++) {
             step();
         }
@@ -46,6 +52,38 @@ final class ModelTest {
         }
         call("squares");
         call("told", 3);
+    }
+
+    /** Numbers for all ages, alike or falling with the distance; a small step stands for small numbers. */
+    private void fillTables(int step) throws Exception {
+        for (int layer = 0; layer < 2; layer++) {
+            for (int age = 0; age < 12; age++) {
+                int v = 100 + random.nextInt(step);
+                call("table", layer, 0, age, v);
+                for (int distance = 1; distance < 10; distance++) {
+                    v = Math.max(age == 0 ? 100 - 10 * distance : 0, v - random.nextInt(step));
+                    call("table", layer, distance, age, v);
+                }
+                if (step < 10) {
+                    shrinkTables(layer, age);
+                }
+            }
+        }
+    }
+
+    /** To numbers of 0 to 3, from far to near, as each may not be below the next. */
+    private void shrinkTables(int layer, int age) throws Exception {
+        int v = 0;
+        for (int distance = 9; distance >= 0; distance--) {
+            v = Math.min(3, v + random.nextInt(2) * random.nextInt(2));
+            call("table", layer, distance, age, v);
+        }
+    }
+
+    private void fillReadings() throws Exception {
+        for (int i = 0; i < 60; i++) {
+            call("read", well(), month(), random.nextInt(20000) - 10000);
+        }
     }
 
     private void call(String name, Object... args) throws Exception {
@@ -64,12 +102,18 @@ final class ModelTest {
         history.append(told).append(" = ").append(want).append('\n');
         Check.due(told, got, want);
         wrong = got != want;
+        if (want < -999999999L && !wrong) {
+            want = model.told(3);
+            got = program.told(3);
+            Check.due(told + ", then told(3)", got, want);
+            wrong = got != want;
+        }
     }
 
     private void step() throws Exception {
         switch (random.nextInt(30)) {
             case 0: call("well", kind(), edgy(31), edgy(31), rest()); break;
-            case 1: call("limit", well(), limit()); break;
+            case 1: limits(); break;
             case 2: call("as", well(), edgy(6)); break;
             case 3: call("of", well(), edgy(6)); break;
             case 4: call("distance", well(), well()); break;
@@ -80,7 +124,7 @@ final class ModelTest {
             case 9: call("sheet", edgy(4), edgy(3), edgy(25)); break;
             case 10: call("put", edgy(4), edgy(24), float32()); break;
             case 11: call("copy", edgy(4), edgy(4), edgy(4), edgy(4), edgy(6)); break;
-            case 12: call("draws", well(), month(), edgy(4)); break;
+            case 12: sheets(); break;
             case 13:
             case 14:
             case 15:
@@ -97,8 +141,23 @@ final class ModelTest {
             case 26: read(); break;
             case 27: call("fit", edgy(2), random.nextBoolean() ? 0 : edgy(12)); break;
             case 28: whole(); break;
-            default: call(HEADS[random.nextInt(HEADS.length)], well(), month()); break;
+            default: heads(); break;
         }
+    }
+
+    /** A sheet mostly of one kind and filled, and then drawn by: else nearly none were of use. */
+    private void sheets() throws Exception {
+        int s = random.nextInt(4);
+        int kind = 1 + random.nextInt(2);
+        int n = random.nextInt(6);
+        call("sheet", s, kind, n);
+        for (int i = 0; i < n; i++) {
+            int good = kind == 1 ? amount() : Float.floatToRawIntBits(random.nextFloat() * 1001f - 0.9f);
+            call("put", s, i, random.nextInt(12) == 0 ? float32() : good);
+        }
+        call("draws", well(), month(), s);
+        call("copy", s, random.nextInt(n + 1), edgy(4), edgy(3), random.nextInt(n + 1));
+        call("draws", well(), month(), edgy(4));
     }
 
     private void serve() throws Exception {
@@ -106,7 +165,25 @@ final class ModelTest {
             call("serve", month());
         }
         for (int i = 0; i < 4; i++) {
-            call("served", edgy(10), random.nextBoolean());
+            call("served", edgy(Math.max(1, model.now.licences.size())), random.nextBoolean());
+        }
+    }
+
+    /** Mostly a limit somewhat below a head, so that something is FREE, but not all. */
+    private void limits() throws Exception {
+        int w = well();
+        boolean real = w >= 0 && w < model.now.wells.size();
+        if (real && random.nextInt(4) > 0) {
+            long below = model.now.head(w, random.nextInt(24)) - random.nextInt(40000);
+            call("limit", w, (int) Math.max(-100000, Math.min(100000, below)));
+        } else {
+            call("limit", w, limit());
+        }
+    }
+
+    private void heads() throws Exception {
+        for (String name : HEADS) {
+            call(name, well(), month());
         }
     }
 
@@ -186,10 +263,10 @@ final class ModelTest {
     }
 
     private int float32() {
-        int which = random.nextInt(6);
-        if (which == 0) {
-            return random.nextInt();
+        int which = random.nextInt(8);
+        if (which < 2) {
+            return which == 0 ? random.nextInt() : random.nextInt(3) == 0 ? 0x7fc00000 : 0;
         }
-        return which < 3 ? random.nextInt(1100) - 20 : Float.floatToRawIntBits(random.nextFloat() * 1020f - 5f);
+        return which < 5 ? random.nextInt(1100) - 20 : Float.floatToRawIntBits(random.nextFloat() * 1020f - 5f);
     }
 }

@@ -167,6 +167,11 @@ final class WellsTest {
         Check.due("table: layer 1 has its own", x.table(1, 5, 0, 31), Check.SIZE);
         Check.due("table: an age has its own", x.table(0, 5, 1, 1), Check.SIZE);
         Check.due("table: a finding changes nothing", x.table(0, 5, 0, 50), 40);
+        x.table(1, 0, 3, 50);
+        x.table(1, 1, 3, 40);
+        Check.due("table: below one more of that age", x.table(1, 0, 3, 39), Check.SIZE);
+        Check.due("table: above one less of that age", x.table(1, 1, 3, 51), Check.SIZE);
+        Check.due("table: as one more of that age", x.table(1, 0, 3, 40), 50);
     }
 
     private static void rainTable() {

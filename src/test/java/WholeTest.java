@@ -7,6 +7,7 @@ final class WholeTest {
         servedIsKept();
         keepInPlace();
         told();
+        everyFindingIsCounted();
         Check.finish();
     }
 
@@ -157,5 +158,55 @@ final class WholeTest {
         Check.due("told: wells", x.told(0), 1);
         Check.due("told: licences", x.told(1), 1);
         Check.due("told: readings", x.told(2), 1);
+    }
+
+    /** Each act with each of its findings once. */
+    private static void everyFindingIsCounted() {
+        WellField x = Check.ofAllKinds();
+        x.sheet(1, 1, 2);
+        x.sheet(2, 2, 2);
+        x.put(2, 0, 0x7fc00000);
+        x.put(1, 0, 1001);
+        int n = 0;
+        n += finding(x.back()) + finding(x.well(6, 0, 0, 0)) + finding(x.limit(9, 0)) + finding(x.as(9, 0));
+        n += finding(x.as(0, 1)) + finding(x.of(9, 0)) + finding(x.of(0, 6)) + finding(x.distance(0, 9));
+        n += finding(x.table(2, 0, 0, 0)) + finding(x.table(0, 1, 0, 101)) + finding(x.rainTable(12, 0));
+        Check.due("told: wells, tables", x.told(3), n);
+        n += finding(x.sheet(4, 0, 0)) + finding(x.sheet(0, 1, -1)) + finding(x.sheet(0, 1, 25));
+        n += finding(x.put(4, 0, 0)) + finding(x.put(0, 0, 0)) + finding(x.put(1, 2, 0));
+        n += finding(x.copy(4, 0, 0, 0, 0)) + finding(x.copy(0, 0, 1, 0, 0)) + finding(x.copy(1, 0, 2, 0, 0));
+        n += finding(x.copy(1, 0, 1, 0, 3)) + finding(x.draws(9, 0, 0)) + finding(x.draws(5, 0, 0));
+        n += finding(x.draws(0, 0, 0)) + finding(x.draws(0, 0, 2)) + finding(x.draws(0, 0, 1));
+        n += finding(x.draw(9, 0, 0)) + finding(x.draw(5, 0, 0)) + finding(x.counts(9, 0)) + finding(x.rain(24, 0));
+        Check.due("told: sheets, draws, rain", x.told(3), n);
+        n += finding(x.head(9, 0)) + finding(x.by(9, 0, 0)) + finding(x.rained(9, 0)) + finding(x.most(9, 0));
+        n += finding(x.most(0, 0)) + finding(x.when(9, 0)) + finding(x.when(0, 0)) + finding(x.near(9, 0));
+        n += finding(x.low(24)) + finding(x.without(9, 0, 0, 0)) + finding(x.free(9, 0));
+        Check.due("told: heads", x.told(3), n);
+        n += finding(x.licence(9, 0, 0)) + finding(x.licence(5, 0, 0)) + finding(x.served(0, true));
+        for (int i = 0; i < 10; i++) {
+            x.licence(0, 0, 0);
+        }
+        n += finding(x.licence(0, 0, 0)) + finding(x.serve(24)) + finding(x.served(0, true));
+        n += finding(x.hold(9, 0, 0)) + finding(x.hold(0, 0, 0)) + finding(x.move(0, 0, 0)) + finding(x.move(0, 0, 5));
+        x.draw(0, 0, 1000);
+        n += finding(x.hold(4, 0, 1));
+        Check.due("told: what may be drawn", x.told(3), n);
+        n += finding(x.read(9, 0, 0)) + finding(x.differ(9, 0)) + finding(x.differ(0, 0)) + finding(x.fit(2, 0));
+        n += finding(x.fit(0, 0));
+        for (int i = 0; i < 40; i++) {
+            x.read(i % 2, i / 2, 0);
+        }
+        n += finding(x.read(2, 0, 0));
+        for (int i = 0; i < 4; i++) {
+            x.well(0, 0, 0, 0);
+        }
+        n += finding(x.well(0, 0, 0, 0)) + finding(x.told(4));
+        Check.due("told: all", x.told(3), n);
+    }
+
+    private static int finding(int answer) {
+        Check.due("a finding: " + answer, answer < -999999999 ? 1 : 0, 1);
+        return 1;
     }
 }
