@@ -318,6 +318,7 @@ public final class WellField {
         if (!isWell(well) || !isMonth(month)) {
             return finding(BEYOND);
         }
+        now.findSpare(month);
         return now.freeOf(well, month);
     }
 
@@ -339,6 +340,7 @@ public final class WellField {
             return finding(BEYOND);
         }
         now.unserve(month);
+        now.findSpare(month);
         int sum = 0;
         for (int i = 0; i < now.licences.size; i++) {
             int next = now.licences.nextUnserved();
@@ -701,6 +703,8 @@ public final class WellField {
         private final Readings readings = new Readings();
         private final int[] drawn = new int[MOST_WELLS * MONTHS];
         private final int[] rains = new int[MONTHS];
+        /** How far each head is above its limit: findSpare() makes it for freeOf(), nothing else reads it. */
+        private final int[] spare = new int[MOST_WELLS * MONTHS];
 
         private int drawOf(int well, int month) {
             return drawn[well * MONTHS + month];
@@ -719,7 +723,7 @@ public final class WellField {
         }
 
         private int counted(int well, int month) {
-            return wells.isOwnMonth(well, month) ? COUNTS_TIMES[wells.kinds[well]] * drawn[well * MONTHS + month] : 0;
+            return wells.isOwnMonth(well, month) ? COUNTS_TIMES[wells.kinds[well]] * drawOf(well, month) : 0;
         }
 
         /** Where the table's numbers for what one well does to another begin. */
@@ -732,9 +736,11 @@ public final class WellField {
             int row = rowBetween(well, source);
             int sum = 0;
             for (int m = Math.max(from, month - AGES + 1); m <= month; m++) {
-                sum += counted(source, m) * tables.falls[row + month - m];
+                if (wells.isOwnMonth(source, m)) {
+                    sum += drawn[source * MONTHS + m] * tables.falls[row + month - m];
+                }
             }
-            return sum;
+            return sum * COUNTS_TIMES[wells.kinds[source]];
         }
 
         /** What the LOWERING of a well in a month grows by with each 1 more that a source draws a month. */
@@ -769,6 +775,23 @@ public final class WellField {
             return headOf(well, month) - wells.limits[well];
         }
 
+        private void findSpare(int from) {
+            for (int well = 0; well < wells.size; well++) {
+                for (int month = from; month < MONTHS; month++) {
+                    spare[well * MONTHS + month] = aboveLimit(well, month);
+                }
+            }
+        }
+
+        /** What is spare once a source draws more: cheaper than finding it anew for each licence. */
+        private void useSpare(int source, int from, int more) {
+            for (int well = 0; well < wells.size; well++) {
+                for (int month = from; month < MONTHS; month++) {
+                    spare[well * MONTHS + month] -= more * loweringOfOneMore(well, month, source, from);
+                }
+            }
+        }
+
         /** Each 1 more lowers by the same, so the tightest well and month alone say what is FREE. */
         private int freeOf(int source, int from) {
             if (!wells.isDrawing(source)) {
@@ -779,8 +802,7 @@ public final class WellField {
                 for (int month = from; month < MONTHS; month++) {
                     int each = loweringOfOneMore(well, month, source, from);
                     if (each > 0) {
-                        int room = Math.max(0, headOf(well, month) - wells.limits[well]);
-                        free = Math.min(free, room / each);
+                        free = Math.min(free, Math.max(0, spare[well * MONTHS + month]) / each);
                     }
                 }
             }
@@ -807,6 +829,7 @@ public final class WellField {
                     setDraw(well, month, drawOf(well, month) + more);
                 }
             }
+            useSpare(well, from, more);
             licences.served[licence] = more;
             return more;
         }
