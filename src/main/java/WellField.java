@@ -408,7 +408,10 @@ public final class WellField {
         if (!isWell(well) || !isMonth(month)) {
             return finding(BEYOND);
         }
-        return now.readings.has(well, month) ? now.difference(well, month) : finding(NONE);
+        if (!now.readings.has(well, month)) {
+            return finding(NONE);
+        }
+        return now.readings.at(well, month) - now.headOf(well, month);
     }
 
     public int fit(int layer, int age) {
@@ -876,16 +879,12 @@ public final class WellField {
             return most;
         }
 
-        private int difference(int well, int month) {
-            return readings.at(well, month) - headOf(well, month);
-        }
-
         private long sumOfSquares() {
             long sum = 0;
             for (int well = 0; well < wells.size; well++) {
                 for (int month = 0; month < MONTHS; month++) {
                     if (readings.has(well, month)) {
-                        long difference = difference(well, month);
+                        long difference = readings.at(well, month) - headOf(well, month);
                         sum += difference * difference;
                     }
                 }
