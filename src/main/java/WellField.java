@@ -781,7 +781,7 @@ public final class WellField {
         private void findSpare(int from) {
             for (int well = 0; well < wells.size; well++) {
                 for (int month = from; month < MONTHS; month++) {
-                    spare[well * MONTHS + month] = aboveLimit(well, month);
+                    spare[well * MONTHS + month] = headOf(well, month) - wells.limits[well];
                 }
             }
         }

@@ -130,7 +130,8 @@ final class ArgumentsTest {
                 for (int wrong : new int[] {values[i] + step, edge == 0 ? Integer.MIN_VALUE : Integer.MAX_VALUE}) {
                     int[] not = values.clone();
                     not[i] = wrong;
-                    Refused.due(Fields.BUSY, "well" + Arrays.toString(not), Check.BEYOND, y -> (int) call(y, "well", not));
+                    Refused.due(Fields.BUSY, "well" + Arrays.toString(not), Check.BEYOND,
+                        y -> (int) call(y, "well", not));
                 }
             }
         }

@@ -1,6 +1,6 @@
 /**
  * The document's boundary cases, sentence by sentence, for promises 25 to 37: what may be drawn, what was read, and
- * the whole. Of EdgesTest are promises 1 to 24.
+ * the whole. Promises 1 to 24 are in EdgesTest.
  */
 final class EdgesOfServingTest {
     public static void main(String[] args) {
@@ -266,8 +266,8 @@ final class EdgesOfServingTest {
 
     /** "The least number ... so that its own HEAD in that month is not below a told one", "even 1000 is too little" */
     private static void holdFrom0To1000() {
-        int[][] heads = {{-100000, 0}, {-1, 0}, {0, 0}, {1, 1}, {99, 1}, {100, 1}, {101, 2}, {99900, 999}, {99901, 1000},
-            {100000, 1000}, {100001, Check.BEYOND}, {-100001, Check.BEYOND}};
+        int[][] heads = {{-100000, 0}, {-1, 0}, {0, 0}, {1, 1}, {99, 1}, {100, 1}, {101, 2}, {99900, 999},
+            {99901, 1000}, {100000, 1000}, {100001, Check.BEYOND}, {-100001, Check.BEYOND}};
         for (int month : new int[] {0, 23}) {
             for (int[] head : heads) {
                 WellField x = new WellField();
