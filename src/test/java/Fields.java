@@ -9,6 +9,8 @@ enum Fields {
     EMPTY(WellField::new),
     /** Something of all, nothing full, and what is kept differs from what is. */
     BUSY(Fields::busy),
+    /** A licence that was never served, a GUARD that can't hold much, and sheets with what can't be drawn. */
+    YOUNG(Fields::young),
     /** As many wells, licences, readings and numbers of sheets as there may be. */
     FULL(Fields::full);
 
@@ -64,6 +66,28 @@ enum Fields {
         x.put(3, 0, Float.floatToIntBits(-1f));
         x.put(3, 1, Float.floatToIntBits(Float.NaN));
         x.put(3, 2, Float.floatToIntBits(2.5f));
+    }
+
+    /** Well 0 and GUARD 1; each sheet has three floats. */
+    private static WellField young() {
+        float[][] rows = {{0f, 7f, Float.NaN}, {-1f, 7f, Float.NaN}, {Float.NaN, 1001f, 7f}, {7f, 1001f, -1f}};
+        WellField x = new WellField();
+        x.well(0, 1, 1, 500);
+        x.well(4, 1, 1, -1);
+        x.licence(0, 5, 10);
+        x.draw(0, 21, 9);
+        x.draw(0, 22, 8);
+        x.draw(1, 3, 444);
+        x.keep();
+        x.draw(0, 23, 6);
+        x.draw(1, 4, 445);
+        for (int s = 0; s < 4; s++) {
+            x.sheet(s, 2, 3);
+            for (int i = 0; i < 3; i++) {
+                x.put(s, i, Float.floatToIntBits(rows[s][i]));
+            }
+        }
+        return x;
     }
 
     /** Ten wells, well 8 a GUARD and well 9 a POST, and wells 0 to 7 may have licences. */

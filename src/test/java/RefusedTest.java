@@ -3,8 +3,6 @@
  * first is answered, told(3) counts it, and later calls tell that nothing changed.
  */
 final class RefusedTest {
-    private static final int NAN = 0x7fc00000;
-
     public static void main(String[] args) {
         wells();
         tables();
@@ -112,33 +110,19 @@ final class RefusedTest {
 
     /** A number that is none is asked ahead of those too small or too great, wherever it stands. */
     private static void drawsOfNumbers() {
-        int[][] rows = {{NAN, 0, 0}, {0, 0, NAN}, {float32(-1), 0, NAN}, {NAN, float32(1001), 0},
-            {float32(2000), NAN, float32(-5)}};
-        for (int[] row : rows) {
-            due(row, 21, Check.NO_NUMBER);
+        Refused.due(Fields.YOUNG, "draws: the last is none", Check.NO_NUMBER, x -> x.draws(0, 21, 0));
+        Refused.due(Fields.YOUNG, "draws: none behind one below 0", Check.NO_NUMBER, x -> x.draws(0, 21, 1));
+        Refused.due(Fields.YOUNG, "draws: none ahead of one above 1000", Check.NO_NUMBER, x -> x.draws(0, 21, 2));
+        Refused.due(Fields.YOUNG, "draws: the first alone is none", Check.NO_NUMBER, x -> x.draws(0, 23, 2));
+        Refused.due(Fields.YOUNG, "draws: none is not needed, one below 0 is", Check.BEYOND, x -> x.draws(0, 22, 1));
+        Refused.due(Fields.YOUNG, "draws: the last are no draws", Check.BEYOND, x -> x.draws(0, 21, 3));
+        Refused.due(Fields.YOUNG, "draws: the second is no draw", Check.BEYOND, x -> x.draws(0, 22, 3));
+        int[][] taken = {{22, 0, 2}, {23, 0, 1}, {23, 3, 1}};
+        for (int[] draws : taken) {
+            WellField x = Fields.YOUNG.make();
+            String call = "draws: from " + draws[0] + " sheet " + draws[1];
+            Check.due(call + ", what can't be drawn is not needed", x.draws(0, draws[0], draws[1]), draws[2]);
         }
-        due(new int[] {0, 0, NAN}, 22, 2);
-        due(new int[] {0, NAN, NAN}, 23, 1);
-        due(new int[] {0, 0, float32(-1)}, 21, Check.BEYOND);
-        due(new int[] {0, 0, float32(-1)}, 22, 2);
-        due(new int[] {0, float32(1001), NAN}, 22, Check.BEYOND);
-    }
-
-    private static void due(int[] row, int month, int due) {
-        WellField x = new WellField();
-        x.well(0, 0, 0, 0);
-        x.draw(0, month, 77);
-        x.sheet(0, 2, row.length);
-        for (int i = 0; i < row.length; i++) {
-            x.put(0, i, row[i]);
-        }
-        String call = "draws of " + java.util.Arrays.toString(row) + " from " + month;
-        Check.due(call, x.draws(0, month, 0), due);
-        Check.due(call + ", then all draws", x.of(0, 5), due < 0 ? 77 : 0);
-    }
-
-    private static int float32(int v) {
-        return Float.floatToIntBits(v);
     }
 
     private static void heads() {
@@ -170,11 +154,8 @@ final class RefusedTest {
         Refused.due(Fields.BUSY, "served: it came behind that, lacks", Check.NONE, x -> x.served(3, true));
         Refused.due(Fields.BUSY, "serve: no month changes what was served", Check.BEYOND, x -> x.serve(24));
         Refused.due(Fields.BUSY, "serve: month -1", Check.BEYOND, x -> x.serve(-1));
-        WellField x = new WellField();
-        x.well(0, 0, 0, 0);
-        x.licence(0, 0, 0);
-        Check.due("served: there was none", x.served(0, false), Check.NONE);
-        Check.due("served: there was none, lacks", x.served(0, true), Check.NONE);
+        Refused.due(Fields.YOUNG, "served: there was none", Check.NONE, x -> x.served(0, false));
+        Refused.due(Fields.YOUNG, "served: there was none, lacks", Check.NONE, x -> x.served(0, true));
     }
 
     private static void guards() {
@@ -187,12 +168,10 @@ final class RefusedTest {
                 Refused.due(Fields.BUSY, "hold: month ahead of KIND", Check.BEYOND, x -> x.hold(kind, 24, 0));
             }
         }
-        Refused.due(Fields.BUSY, "hold: head ahead of NONE", Check.BEYOND, x -> x.hold(4, 20, 100001));
-        WellField x = new WellField();
-        x.well(4, 0, 0, -1);
-        x.draw(0, 23, 13);
-        Check.due("hold: even 1000 is too little", x.hold(0, 23, 100000), Check.NONE);
-        Check.due("hold: nothing changes", x.draw(0, 23, 0), 13);
+        Refused.due(Fields.YOUNG, "hold: even 1000 is too little", Check.NONE, x -> x.hold(1, 3, 100000));
+        Refused.due(Fields.YOUNG, "hold: and in month 23", Check.NONE, x -> x.hold(1, 23, 100000));
+        Refused.due(Fields.YOUNG, "hold: head ahead of NONE", Check.BEYOND, x -> x.hold(1, 3, 100001));
+        Refused.due(Fields.YOUNG, "hold: month ahead of NONE", Check.BEYOND, x -> x.hold(1, 24, 100000));
     }
 
     private static void moves() {
