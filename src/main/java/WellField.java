@@ -423,11 +423,11 @@ public final class WellField {
         }
         now.tables.startTrial(layer, age);
         int best = LEAST_FACTOR;
-        long least = Long.MAX_VALUE;
+        long least = 0;
         for (int f = LEAST_FACTOR; f <= GREATEST_FACTOR; f += FACTOR_STEP) {
             now.tables.tryFactor(layer, age, f);
             long sum = now.sumOfSquares();
-            if (sum < least) {
+            if (f == LEAST_FACTOR || sum < least) {
                 least = sum;
                 best = f;
             }
@@ -904,8 +904,11 @@ public final class WellField {
 
     /** A row of numbers of 32 bits, or of floats by their bits, or nothing. */
     private static final class Sheet {
+        private static final int ALL_BUT_SIGN = 0x7fffffff;
         private static final int INFINITY = 0x7f800000;
         private static final int USUAL_NO_NUMBER = 0x7fc00000;
+        /** In place of all that is at least 2 to the power of 23, of either sign: no amount is so great. */
+        private static final int TOO_GREAT = 1 << 23;
 
         private int kind = NO_SHEET;
         private int size = 0;
@@ -953,7 +956,7 @@ public final class WellField {
         }
 
         private static boolean isNoNumber(int bits) {
-            return (bits & Integer.MAX_VALUE) > INFINITY;
+            return (bits & ALL_BUT_SIGN) > INFINITY;
         }
 
         /** By the bits alone, as LANGUAGE.md leaves no call that makes a float of its bits. */
@@ -963,7 +966,7 @@ public final class WellField {
                 return 0;
             }
             if (exponent > 22) {
-                return bits < 0 ? Integer.MIN_VALUE : Integer.MAX_VALUE;
+                return TOO_GREAT;
             }
             int whole = ((bits & 0x7fffff) | 0x800000) >> (23 - exponent);
             return bits < 0 ? -whole : whole;
